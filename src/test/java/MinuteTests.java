@@ -151,6 +151,8 @@ public final class MinuteTests {
         value("(1 = 2) = (3 = 4)", 1);
         value("1000 * 1000 * 1000 * 1000", 1000000000000L);
         value("1000 * 1000 * 1000 * 1000 + 1", error);
+        value("1000 * 1000 * 1000 * 999 + 1000 * 1000 * 1000", 1000000000000L);
+        value("0 - 1000 * 1000 * 1000 * 999 - 1000 * 1000 * 1000", -1000000000000L);
         value("1000 * 1000 * 1000 * 1000 + 1 - 1", error);
         value("0 - 1000 * 1000 * 1000 * 1000", -1000000000000L);
         value("0 - 1000 * 1000 * 1000 * 1000 - 1", error);
@@ -355,6 +357,11 @@ public final class MinuteTests {
         C.due("all stays", x.count(4), 0);
         x.ring(1);
         C.due("toll more", x.ahead(4, 1), 16);
+        BellPulls again = Checks.of("pull p 1;law stick 1;ring p 0;ring p 0;ring p 1;ring p 2;ring p 3;");
+        again.go(2);
+        C.due("vain so far", again.count(10), 2);
+        C.due("vain more", again.ahead(1, 2), 1);
+        C.due("vain more", again.ahead(9, 2), 2);
         C.due("n 201", x.ahead(201, 0), -1);
         C.due("n -1", x.ahead(-1, 0), -1);
         C.due("what 5", x.ahead(1, 5), -1);
@@ -555,6 +562,9 @@ public final class MinuteTests {
         x.ring(0);
         C.due("keeping leaves what can be undone", x.keep(), 3);
         C.due("it can be", x.undo(), 0);
+        x.ring(0);
+        C.due("back", x.back(), 3);
+        C.due("nothing to undo then", x.undo(), -1);
     }
 
     private static void count() {

@@ -14,6 +14,8 @@ public final class ReadingTests {
         faultsOfTooMuch();
         faultsOfKnots();
         faultsOfTellingTwiceOrNotAhead();
+        fullest();
+        cutShort();
         C.end("ReadingTests");
     }
 
@@ -295,5 +297,37 @@ public final class ReadingTests {
         wrong("pull p 1;lit p;", 4, 13);
         wrong("pull p 1 p;", 4, 9);
         wrong("lamp a;pull p 1 a b a;", 4, 18);
+    }
+
+    private static void fullest() {
+        StringBuilder all = new StringBuilder(many("lamp ", ";", 14)).append("pull p 1");
+        for (char c = 'a'; c < 'a' + 14; c++) {
+            all.append(' ').append(c);
+        }
+        right(all + ";", 15);
+        C.due("tied to all", Checks.of(all + ";").pull(0, 3), 16383);
+        wrong(all + " a;", 3, 98 + 37);
+        String nots = "law stick " + "not (".repeat(8) + "not ".repeat(55) + "1" + "))))))));";
+        right(nots, 1);
+        C.due("63 times not", Checks.of("pull p 1;" + nots).law(1, 0), 0);
+        wrong(nots.replace("1))", "not 1))"), 2, nots.indexOf('1') + 4);
+    }
+
+    /** Bytes behind the first n are not looked at. */
+    private static void cutShort() {
+        String text = "law toll 1 <= 2;lamp ab;pull p 10;";
+        int[][] due = {{12, 12}, {13, 13}, {15, 15}, {18, 16}, {20, 20}, {21, 21}, {22, 22}, {31, 31}, {32, 32}, {33, 33}};
+        for (int[] one : due) {
+            BellPulls x = new BellPulls();
+            x.feed(0x6c617720, 0x746f6c6c, 0x2031203c, 0x3d20323b, 0x6c616d70);
+            x.feed(0x2061623b, 0x70756c6c, 0x20702031, 0x303b2020, 0x20202020);
+            C.due(text + " cut at " + one[0], x.text(one[0]), -1);
+            C.due("fault", x.fault(0), 1);
+            C.due("place, cut at " + one[0], x.fault(1), one[1]);
+        }
+        BellPulls y = new BellPulls();
+        y.feed(0x6c616d70, 0x20613b6c, 0x616d7020, 0x623b206c, 0x61200a20);
+        C.due("one line of two", y.text(7), 1);
+        C.due("one lamp", y.count(0), 1);
     }
 }
