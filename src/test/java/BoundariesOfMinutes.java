@@ -556,7 +556,40 @@ final class BoundariesOfMinutes {
             x.tried(3, 0, 200);
             x.go(1);
             b.due("burnt by the first number", x.count(7), 1);
+            // It goes so behind what was drawn, too.
+            for (int burn : new int[] {1, 49, 50, 99}) {
+                BellPulls y = Checks.of(FOURTEEN + "pull p 1;burn " + burn + ";");
+                for (int i = 0; i < 4; i++) {
+                    drawn(y, i);
+                    b.due("ahead, behind " + i + ", by " + burn, y.ahead(1, 3), burn < 50 ? 0 : 14);
+                    drawn(y, i);
+                    b.due("dark, behind " + i + ", by " + burn, y.dark(0), burn < 50 ? -2 : 1);
+                    for (int what = 0; what < 5; what++) {
+                        drawn(y, i);
+                        b.due("tried " + what + ", behind " + i + ", by " + burn, y.tried(what, 0, 1), burn < 50 || what == 0 ? 14 : 0);
+                    }
+                }
+            }
         });
+    }
+
+    /** What goes by numbers, but leaves all lamps as they were. */
+    private static void drawn(BellPulls x, int how) {
+        switch (how) {
+            case 0:
+                x.chance(7, 9, 0);
+                break;
+            case 1:
+                x.ring(0);
+                break;
+            case 2:
+                x.keep();
+                x.go(5);
+                x.back();
+                break;
+            default:
+                x.go(0);
+        }
     }
 
     private void lamp() {
@@ -569,6 +602,13 @@ final class BoundariesOfMinutes {
             for (int lamp = 0; lamp < 2; lamp++) {
                 for (int what = 0; what < 3; what++) {
                     b.due("lamp(" + lamp + ", " + what + ")", Checks.lamp(y, lamp, what), due[lamp][what]);
+                }
+            }
+            BellPulls z = Checks.of("lamp a;lamp b;lit b;burn 100;");
+            z.go(1);
+            for (int lamp = 0; lamp < 2; lamp++) {
+                for (int what = 0; what < 3; what++) {
+                    b.due("the second lit: lamp(" + lamp + ", " + what + ")", Checks.lamp(z, lamp, what), lamp);
                 }
             }
         });
@@ -704,6 +744,11 @@ final class BoundariesOfMinutes {
             b.due("no toll", x.count(9), 5);
             b.due("nothing turned", x.evening(1), 1);
             b.due("nothing to undo", x.count(14), 1);
+            BellPulls y = Checks.of("lamp a;pull p 5;pull q 6 a;law stick cost = 6;");
+            y.ring(1);
+            b.due("the second is stuck", y.ring(1), -2);
+            b.due("the first isn't", y.ring(0), 1);
+            b.due("the first isn't", y.ring(0), 1);
         });
         b.at("Promise 10", "NONE: no such PULL", () -> {
             BellPulls x = Checks.of("lamp a;lamp b;pull p 5 a;");

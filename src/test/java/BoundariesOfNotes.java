@@ -86,6 +86,16 @@ final class BoundariesOfNotes {
                 x.note(1, pull, false);
                 b.due("that it wasn't, too", x.fits(), 0);
             }
+            // Said twice, it is so still.
+            int[] twice = {4, 4, 4, 4};
+            for (int i = 0; i < 4; i++) {
+                BellPulls x = Checks.of(TEXT);
+                x.note(i / 2, 1, i % 2 == 0);
+                x.note(i / 2, 1, i % 2 == 0);
+                b.due("twice: " + i, x.fits(), twice[i]);
+                b.due("fits only that", x.note(i / 2, 1, i % 2 != 0), 2);
+                b.due("and the contrary: " + i, x.fits(), 0);
+            }
         });
     }
 
@@ -215,6 +225,15 @@ final class BoundariesOfNotes {
             b.due("by none", x.known(0), true);
             b.due("by none", x.fits(), 8);
             b.due("by none", x.count(13), 0);
+            for (int i = 0; i < 4; i++) {
+                BellPulls y = Checks.of(TEXT);
+                y.note(i / 2, 0, i % 2 == 0);
+                b.due("by one", y.fits(), 4);
+                y.known(0);
+                b.due("by none any more", y.fits(), 8);
+                y.known(-1);
+                b.due("by one again", y.fits(), 4);
+            }
             b.due("by all that are there", x.known(1), true);
             x.note(1, 1, true);
             b.due("not by those to come", x.count(13), 1);
@@ -248,6 +267,20 @@ final class BoundariesOfNotes {
     }
 
     private void fits() {
+        b.at("Terms 3", "FITS: how many sets of PULLS there are by which all KNOWN ones are so.", () -> {
+            BellPulls x = Checks.of(TEXT);
+            b.due("by none", x.fits(), 8);
+            x.note(0, 0, false);
+            b.due("p or r, not both", x.fits(), 4);
+            x.note(1, 2, true);
+            b.due("r, not p", x.fits(), 2);
+            x.note(0, 1, true);
+            b.due("r and q", x.fits(), 1);
+            x.note(1, 1, false);
+            b.due("never", x.fits(), 0);
+            x.known(3);
+            b.due("all KNOWN ones alone", x.fits(), 1);
+        });
         b.at("Promise 35", "FITS", () -> {
             b.due("nothing told", new BellPulls().fits(), 1);
             b.due("no pull", Checks.of("lamp a;lit a;").fits(), 1);

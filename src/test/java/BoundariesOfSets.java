@@ -101,6 +101,19 @@ final class BoundariesOfSets {
     }
 
     private void ways() {
+        b.at("Terms 3", "WAYS to an EVENING: how many sets of PULLS lead from now to it.", () -> {
+            BellPulls x = Checks.of("lamp a;lamp b;lit a;pull p 1 a;pull q 1 b;pull r 1 a b;");
+            int[] due = {2, 2, 2, 2};
+            for (int lamps = 0; lamps < 4; lamps++) {
+                b.due("ways to " + lamps, x.ways(lamps), due[lamps]);
+            }
+            x.tie(2, 1);
+            x.tie(1, 1);
+            due = new int[] {4, 4, 0, 0};
+            for (int lamps = 0; lamps < 4; lamps++) {
+                b.due("without b, to " + lamps, x.ways(lamps), due[lamps]);
+            }
+        });
         b.at("Promise 16", "WAYS to an EVENING", () -> {
             b.due("no pull", Checks.of("lamp a;").ways(0), 1);
             b.due("no pull", Checks.of("lamp a;").ways(1), 0);
@@ -162,6 +175,16 @@ final class BoundariesOfSets {
             b.due("fewest isn't cheapest", z.fewest(3), 1);
             BellPulls free = Checks.of("lamp a;pull p 0;pull q 0 a;");
             b.due("what costs nothing isn't rung for nothing", free.cheapest(1, 0), 2);
+            // By what is on now: the same evening costs another sum then.
+            BellPulls lit = Checks.of("lamp a;lamp b;lit a;pull p 5 a;pull q 7 b;");
+            int[][] due = {{1, 5}, {0, 0}, {3, 12}, {2, 7}};
+            for (int lamps = 0; lamps < 4; lamps++) {
+                b.due("pulls to " + lamps, lit.cheapest(lamps, 0), due[lamps][0]);
+                b.due("cost to " + lamps, lit.cheapest(lamps, 1), due[lamps][1]);
+            }
+            b.due("none rather than all that do nothing", Checks.of(IDLE).cheapest(0, 0), 0);
+            b.due("none rather than two of the same", Checks.of(SAME).cheapest(0, 0), 0);
+            b.due("which costs nothing", Checks.of(SAME).cheapest(0, 1), 0);
             b.due("nothing", free.cheapest(1, 1), 0);
         });
         b.at("Promise 18", "CHEAPEST, what 0: PULLS (bits), 1: COST in sum", () -> {
@@ -245,6 +268,8 @@ final class BoundariesOfSets {
             BellPulls x = Checks.of("lamp a;pull p 1 a;law stick 1;ring p 0;");
             x.go(1);
             b.due("none is free now", x.rank(), 0);
+            b.due("two of the last lamp", Checks.of(LAMPS + "pull p 1 n;pull q 1 n;").rank(), 1);
+            b.due("two of the last two", Checks.of(LAMPS + "pull p 1 m n;pull q 1 n;pull r 1 m;").rank(), 2);
         });
     }
 
@@ -280,6 +305,12 @@ final class BoundariesOfSets {
             b.due("q", x.sumOf(1), 1);
             b.due("s is p and r, not q", x.sumOf(3), 5);
             b.due("t is r", x.sumOf(4), 4);
+            // Alike to q, though q was taken in by p.
+            BellPulls y = Checks.of("lamp a;lamp b;lamp c;pull p 1 a b;pull q 1 b;pull r 1 b;pull s 1 a;pull t 1 a b;pull u 1 a c;pull v 1 c;");
+            b.due("r is q", y.sumOf(2), 2);
+            b.due("s is p and q", y.sumOf(3), 3);
+            b.due("t is p", y.sumOf(4), 1);
+            b.due("v is p, q and u", y.sumOf(6), 1 + 2 + 32);
         });
         b.at("Promise 22", "SUM (bits)", () -> {
             b.due("the last of the same", Checks.of(SAME).sumOf(9), 1);
@@ -602,6 +633,12 @@ final class BoundariesOfSets {
             BellPulls x = Checks.of("lamp a;lit a;pull p 2;pull q 1;law stick cost = 2;");
             x.ring(0);
             b.due("the first free one", x.game(1), 1);
+            BellPulls y = Checks.of("lamp a;pull p 2 a;pull q 1 a;law stick cost = 2;");
+            y.ring(0);
+            b.due("the one that is free makes it dark", y.game(1), 1);
+            b.due("and wins", y.game(0), 0);
+            b.due("the one that is stuck can't", stuck().game(1), 1);
+            b.due("nobody wins", stuck().game(0), 2);
         });
         b.at("Promise 30", "(-2: nothing can be rung, or all is OFF)", () -> {
             b.due("no pull", Checks.of("lamp a;lit a;").game(1), -2);

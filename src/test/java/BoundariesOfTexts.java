@@ -25,6 +25,7 @@ final class BoundariesOfTexts {
         newObject();
         feed();
         text();
+        textByText();
         textRefused();
         fault();
         named();
@@ -37,6 +38,10 @@ final class BoundariesOfTexts {
             all.append(ahead).append((char) ('a' + i)).append(behind);
         }
         return all.toString();
+    }
+
+    private void value(String e, long due) {
+        b.due(e, b.right("pull p 1;law toll " + e + ";", 2).law(0, 0), due);
     }
 
     private static boolean isOneOf(String word, String words) {
@@ -124,6 +129,8 @@ final class BoundariesOfTexts {
             b.wrong("pull 1;", 1, 5);
             b.wrong("lamp a 1;", 1, 7);
             b.wrong("lamp a;lit a 1;", 1, 13);
+            b.wrong("lit ;", 1, 4);
+            b.wrong("lit 1 1;", 1, 4);
             b.wrong("pull p 1;ring p;", 1, 15);
             b.wrong("pull p 1;ring 1 p;", 1, 14);
             b.wrong("mend;", 1, 4);
@@ -150,6 +157,16 @@ final class BoundariesOfTexts {
     private void laws() {
         b.at("Terms 1", "E: A { or A }. A: B { and B }. B: not B | C.", () -> {
             b.right("law toll 1 or 1 and 1 or not 1 and not not 1;", 1);
+            value("1 or 0 and 0", 1);
+            value("0 and 0 or 1", 1);
+            value("0 or 1 and 0", 0);
+            value("not 0 and 0", 0);
+            value("not 1 or 1", 1);
+            value("not (1 or 1)", 0);
+            value("not 2 = 1", 1);
+            value("(not 2) = 1", 0);
+            value("1 and not 1 = 2", 1);
+            value("not not 2 = 1", 0);
             b.wrong("law toll;", 1, 8);
             b.wrong("law toll or 1;", 1, 9);
             b.wrong("law toll and 1;", 1, 9);
@@ -167,6 +184,15 @@ final class BoundariesOfTexts {
                 b.wrong("law toll 1" + one + ";", 1, 10 + one.length());
                 b.wrong("law toll " + one + "1;", 1, 9);
                 b.wrong("law toll 1" + one + "not 2;", 1, 10 + one.length());
+                b.right("law toll 1" + one + "(not 2);", 1);
+                // One in each S of it, one in each law, not two side by side, however deep they are.
+                b.right("law toll (1" + one + "2)" + one + "(3" + one + "4);law stick 1" + one + "2;", 2);
+                b.wrong("law toll (1" + one + "2" + one + "3);", 1, 12 + one.length());
+                b.wrong("law toll ((((((((1" + one + "2" + one + "3))))))));", 1, 19 + one.length());
+                b.wrong("law toll 1" + one + "(2" + one + "3)" + one + "4;", 1, 14 + 2 * one.length());
+                b.wrong("law toll (1" + one + "2)" + one + "3" + one + "4;", 1, 14 + 2 * one.length());
+                b.wrong("law toll not 1" + one + "2" + one + "3;", 1, 15 + one.length());
+                b.right("law toll 1" + one + "2 or 2" + one + "3 and not 3" + one + "4;", 1);
                 for (String other : signs) {
                     b.wrong("law toll 1 " + one + " 2 " + other + " 3;", 1, 14 + one.length());
                     b.wrong("law toll 1 " + one + " 2 + 2 " + other + " 3;", 1, 18 + one.length());
@@ -183,11 +209,27 @@ final class BoundariesOfTexts {
                 b.wrong("law toll 1" + sign + sign + "1;", 1, 11);
                 b.wrong("law toll 1" + sign + "not 1;", 1, 11);
                 b.wrong("law toll 1" + sign, 1, 11);
+                b.right("law toll 1" + sign + "(not 2);", 1);
             }
+            value("7 - 2 - 1", 4);
+            value("7 - (2 - 1)", 6);
+            value("7 - 2 + 1", 6);
+            value("8 / 4 / 2", 1);
+            value("8 / (4 / 2)", 4);
+            value("9 / 2 * 2", 8);
+            value("2 + 3 * 4", 14);
+            value("2 * 3 + 4", 10);
+            value("(2 + 3) * 4", 20);
+            value("9 - 8 / 4", 7);
+            value("3 = 1 + 2", 1);
+            value("1 + 2 = 3", 1);
+            value("1 + (2 = 3)", 1);
         });
         b.at("Terms 1", "P: N | NAME | '(' E ')'", () -> {
             b.right("law toll (not 1 or 2 < 3);", 1);
             b.right("law toll ((1));", 1);
+            value("1 + (not 0)", 2);
+            value("2 * (1 < 2)", 2);
             b.wrong("law toll ();", 1, 10);
             b.wrong("law toll (1;", 1, 11);
             b.wrong("law toll (1", 1, 11);
@@ -269,6 +311,7 @@ final class BoundariesOfTexts {
             b.due("all", b.right(many("lamp ", ";", 14) + many("lit ", ";", 14), 28).evening(1), 16383);
             b.due("the last", b.right(many("lamp ", ";", 14) + "lit n;", 15).evening(1), 8192);
             b.wrong("lamp a;lit a;lit a;", 3, 17);
+            b.wrong("lamp a;lamp b;lit b;lit b;", 3, 24);
         });
         b.at("Terms 1", "RINGS, at most 14", () -> {
             b.due("none", b.right("pull p 1;", 1).count(2), 0);
@@ -449,6 +492,10 @@ final class BoundariesOfTexts {
             }
             // '(' is none; a law of its own goes on counting.
             b.due("without ( and )", b.right("law toll ((1));", 1).count(3), 1);
+            // The most that can wait for its right side: eight '(' and 63 not.
+            BellPulls x = b.right("pull p 1;law toll " + "(".repeat(8) + "not ".repeat(63) + "1" + ")".repeat(8) + ";", 2);
+            b.due("64 with ( and )", x.count(3), 64);
+            b.due("63 times not", x.law(0, 0), 0);
             b.wrong(full + ";law stick 1;", 2, full.length() + 11);
             b.wrong(full + ";law stick cost;", 2, full.length() + 11);
             b.wrong(full + ";law stick not 1;", 2, full.length() + 11);
@@ -588,6 +635,23 @@ final class BoundariesOfTexts {
             b.due("700 bytes", Checks.tell(y, " ".repeat(692) + "lamp a;" + ";"), -1);
             b.due("the last byte", y.fault(1), 699);
             b.due("700 bytes", Checks.tell(y, " ".repeat(693) + "lamp a;"), 1);
+            // What stands behind them is no part of it: not of a word, a number, a sign that begins in them.
+            firstBytes("lamp abc;", 7, 1, 7);
+            firstBytes("lamps;", 4, 1, 4);
+            firstBytes("pull p 100;", 9, 1, 9);
+            firstBytes("law toll 1<=2;", 11, 1, 11);
+            firstBytes("law toll 1<>2;", 11, 1, 11);
+            firstBytes("law toll 1>=2;", 11, 1, 11);
+            firstBytes("lamp a;lamp b;", 13, 1, 13);
+            firstBytes("lamp a; $", 8, 0, -1);
+        });
+        b.at("Promise 3", "(it is empty then)", () -> {
+            for (String text : new String[] {"", "lamp a;", "$", "lamp a;lamp a;", "lamp"}) {
+                BellPulls x = new BellPulls();
+                Checks.tell(x, text);
+                b.due("behind " + text, x.text(1), -2);
+                b.due("behind " + text, x.feed(BLANKS, BLANKS, BLANKS, BLANKS, BLANKS), 20);
+            }
         });
         b.at("Promise 3", "how many LINES", () -> {
             BellPulls x = new BellPulls();
@@ -616,7 +680,7 @@ final class BoundariesOfTexts {
             b.due("lit", x.evening(1), 2);
             b.due("tied", x.pull(0, 3), 2);
             b.due("worn", x.pull(0, 2), 0);
-            b.due("age", x.lamp(1, 2), 0);
+            b.due("age", x.lamp(0, 2) + x.lamp(1, 2), 0);
             b.due("no image", x.back(), -1);
             b.due("nothing to undo", x.undo(), -1);
             x.note(0, 0, true);
@@ -631,6 +695,64 @@ final class BoundariesOfTexts {
                 b.due("the first number", x.count(7), 1);
             }
         });
+    }
+
+    /** Only so many bytes of these are the text. */
+    private void firstBytes(String bytes, int n, int fault, int place) {
+        BellPulls x = new BellPulls();
+        Checks.feed(x, bytes);
+        b.due("the first " + n + " of " + bytes, x.text(n), fault == 0 ? 1 : -1);
+        b.due("fault of them", x.fault(0), fault);
+        b.due("place in them", x.fault(1), place);
+    }
+
+    private void textByText() {
+        String full = "lamp a;lamp b;pull p 1 a b;pull q 2 b;lit a;ring p 0;mend 1;burn 100;seed 99999;law toll 1 < (2);"
+                + "law stick 1 + 2;law fate 1" + "+1".repeat(20) + ";";
+        b.at("Promise 3", "are the TEXT", () -> {
+            // Of the texts ahead of it, right ones and refused ones, nothing is left.
+            BellPulls x = new BellPulls();
+            for (String ahead : new String[] {full, full + "$", full.substring(0, 70), "law toll ((((((((not 1 < 2 +", "law fate 1 < 2 <"}) {
+                for (int many = 1; many <= 3; many++) {
+                    for (int i = 0; i < many; i++) {
+                        Checks.tell(x, ahead);
+                        x.go(1);
+                    }
+                    fresh(x);
+                }
+            }
+        });
+    }
+
+    private void fresh(BellPulls x) {
+        b.due("a small text", Checks.tell(x, "lamp a;pull q 7;lit a;"), 3);
+        int[] due = {1, 1, 0, 0, 0, 1, 1, 0, 0, 0, 0, 0, 0, 0, 0};
+        for (int what = 0; what < due.length; what++) {
+            b.due("count(" + what + ")", x.count(what), due[what]);
+        }
+        b.due("age", Checks.lamp(x, 0, 2), 0);
+        b.due("tied to it", Checks.lamp(x, 0, 3), 0);
+        b.due("cost", x.pull(0, 0), 7);
+        b.due("tied", x.pull(0, 3), 0);
+        b.due("first told", x.named(1, Checks.letters("q")), 0);
+        for (int what = 0; what < 3; what++) {
+            b.due("law " + what, x.law(what, 0), Long.MIN_VALUE);
+        }
+        b.due("burn", x.holds(1, 0), 1);
+        b.due("by rings", x.ahead(200, 1), 0);
+        b.due("by burning", x.ahead(200, 3), 0);
+        b.due("as much again", Checks.tell(x, "burn 1;seed 0;lamp x;lit x;law toll 1 < 2;law stick (1) < 2;law fate 1" + "+0".repeat(20) + ";"), 7);
+        b.due("its knots", x.count(3), 47);
+        x.go(1);
+        b.due("burnt by the first number of seed 0", x.count(7), 1);
+        b.due("no seed", Checks.tell(x, "burn 1;lamp x;lit x;"), 3);
+        x.go(1);
+        b.due("burnt by the first number of seed 0", x.count(7), 1);
+        // A mending that was told ahead would come of it.
+        b.due("no mending", Checks.tell(x, "pull p 1;law stick 1;"), 2);
+        x.ring(0);
+        x.go(50);
+        b.due("stuck still", x.count(8), 1);
     }
 
     /** A house in which something was done, and five bytes with a FAULT at the fourth of them on its TAPE. */

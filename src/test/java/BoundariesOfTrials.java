@@ -93,6 +93,9 @@ final class BoundariesOfTrials {
             b.due("burnt in a minute", x.dark(0), 1);
             x.go(1);
             b.due("burnt now", x.dark(0), 0);
+            BellPulls second = Checks.of("lamp a;lamp b;lit b;");
+            b.due("the first is off", second.dark(0), 0);
+            b.due("the second isn't", second.dark(1), -2);
             b.due("turned off in the first", Checks.of("lamp a;lit a;pull p 1 a;ring p 0;").dark(0), 1);
             b.due("turned off in the last", Checks.of("lamp a;lit a;pull p 1 a;ring p 99;").dark(0), 100);
             b.due("on again within the same minute", Checks.of("lamp a;lit a;pull p 1 a;ring p 3;ring p 3;").dark(0), -2);
@@ -196,6 +199,9 @@ final class BoundariesOfTrials {
             b.due("one that is off", all.chance(0, 99, 1), 0);
             all.go(1);
             b.due("burnt already", all.chance(0, 99, 0), 10);
+            BellPulls second = Checks.of("lamp a;lamp b;lit b;burn 100;");
+            b.due("the second in all", second.chance(0, 1, 1), 10);
+            b.due("the first in none", second.chance(0, 1, 0), 0);
             BellPulls mended = Checks.of("lamp a;lamp b;lit a;law fate (minute = 0) * 100;mend 2;");
             mended.go(1);
             b.due("not mended by then", mended.chance(0, 1, 0), 10);
@@ -347,6 +353,15 @@ final class BoundariesOfTrials {
             b.due("another in its place", x.count(14), 2);
             b.due("it", x.undo(), 1);
             b.due("the ring", x.undo(), 0);
+            for (int i = 1; i <= 3; i++) {
+                x.ring(0);
+            }
+            for (int i = 2; i >= 0; i--) {
+                x.undo();
+                b.due("worn so often", x.pull(0, 2), i);
+                b.due("on", x.evening(1), i % 2);
+                b.due("toll", x.count(9), i);
+            }
             // Undoing and doing again, round and round.
             for (int i = 0; i < 50; i++) {
                 x.ring(0);
@@ -441,9 +456,16 @@ final class BoundariesOfTrials {
             b.due("notes stay", x.count(12), 2);
             b.due("by how many it is known stays", x.count(13), 1);
             // The numbers are as they were, too.
-            int burnt = run(x);
-            x.back();
-            b.due("the same again", run(x), burnt);
+            BellPulls y = Checks.of("lamp a;lamp b;lamp c;lit a;lit b;lit c;burn 20;seed 3;");
+            y.go(1);
+            y.keep();
+            int burnt = run(y);
+            b.due("not all by the first numbers", burnt != 0 && burnt != run(y), true);
+            for (int i = 0; i < 5; i++) {
+                y.back();
+                b.due("the same again", run(y), burnt);
+                y.go(i);
+            }
         });
         b.at("Promise 42", "All (but NOTES) is as in the IMAGE (nothing to undo then): which MINUTE it is", () -> {
             BellPulls x = Checks.of("lamp a;pull p 1 a;");

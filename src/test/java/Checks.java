@@ -30,6 +30,11 @@ final class Checks {
 
     /** Feeds a text, with blanks behind it, and answers what text() answers. */
     static int tell(BellPulls house, String text) {
+        feed(house, text);
+        return house.text(text.length());
+    }
+
+    static void feed(BellPulls house, String text) {
         byte[] bytes = text.getBytes(StandardCharsets.ISO_8859_1);
         for (int from = 0; from < bytes.length; from += 20) {
             int[] five = new int[5];
@@ -39,7 +44,6 @@ final class Checks {
             }
             house.feed(five[0], five[1], five[2], five[3], five[4]);
         }
-        return house.text(bytes.length);
     }
 
     static BellPulls of(String text) {
