@@ -253,6 +253,8 @@ final class BoundariesOfSets {
                 BellPulls x = Checks.of(text);
                 int had = 0;
                 for (int lamps = 0; lamps < 1 << x.count(0) && lamps < 2048; lamps++) {
+                    // No object is asked more often than is promised.
+                    x = lamps % 256 == 255 ? Checks.of(text) : x;
                     had += x.ways(lamps) > 0 ? 1 : 0;
                 }
                 b.due("evenings of " + text, had, 1 << x.rank());
